@@ -1,14 +1,37 @@
 /** Promise 10: events counts all events, those injected and those sent. */
 public final class Promise10EventsTest {
     public static void main(String[] args) {
-        lifeBoundsTheChain();
-        fullestSimulation();
-        shrinksWhenSendingIsUndone();
-        horizonDoesNotMatter();
+        Expect.sentence("How many events the simulation has in all: none", Promise10EventsTest::none);
+        Expect.sentence("those injected", Promise10EventsTest::injected);
+        Expect.sentence("and those sent", Promise10EventsTest::sent);
+        Expect.sentence("in all: 24 injected and 72 sent", Promise10EventsTest::fullest);
+        Expect.sentence("in all: not those that are sent no more", Promise10EventsTest::sentNoMore);
+        Expect.sentence("in all: those up to the horizon too", Promise10EventsTest::beforeTheHorizon);
         Expect.end("Promise10EventsTest");
     }
 
-    private static void lifeBoundsTheChain() {
+    private static void none() {
+        OptimisticSim sim = new OptimisticSim();
+        Expect.same("events() at the start", sim.events(), 0);
+        sim.inject(4, 10, 0);
+        sim.inject(0, 100, 0);
+        Expect.same("events() behind refused injects", sim.events(), 0);
+        sim.inject(0, 10, 0);
+        sim.clear();
+        Expect.same("events() behind clear", sim.events(), 0);
+    }
+
+    private static void injected() {
+        OptimisticSim sim = new OptimisticSim();
+        for (int i = 1; i <= 24; i++) {
+            sim.inject(i % 4, 99 - i, i % 16);
+            Expect.same("events() of " + i, sim.events(), i);
+        }
+        sim.inject(0, 50, 0);
+        Expect.same("events() behind one too many", sim.events(), 24);
+    }
+
+    private static void sent() {
         for (int life = 0; life <= 3; life++) {
             OptimisticSim sim = new OptimisticSim();
             sim.rule(0, 0, 1, 0);
@@ -17,14 +40,14 @@ public final class Promise10EventsTest {
         }
     }
 
-    private static void fullestSimulation() {
-        for (int times = 0; times < 2; times++) {
+    private static void fullest() {
+        for (int step = 0; step <= 4; step++) {
             OptimisticSim sim = new OptimisticSim();
             for (int process = 0; process < 4; process++) {
                 sim.rule(process, (process + 1) % 4, 9, 0);
             }
             for (int i = 1; i <= 24; i++) {
-                sim.inject(i % 4, times == 0 ? 99 : 99 - i, Expect.what(i % 16, 3));
+                sim.inject(i % 4, 99 - i * step, Expect.what(i % 16, 3));
                 Expect.same("events() of " + i, sim.events(), 4 * i);
             }
             int sum = 0;
@@ -36,7 +59,7 @@ public final class Promise10EventsTest {
         }
     }
 
-    private static void shrinksWhenSendingIsUndone() {
+    private static void sentNoMore() {
         OptimisticSim sim = new OptimisticSim();
         sim.rule(0, 1, 1, 1);
         for (int i = 0; i < 3; i++) {
@@ -49,15 +72,13 @@ public final class Promise10EventsTest {
         Expect.same("events() then", sim.events(), 4);
     }
 
-    private static void horizonDoesNotMatter() {
+    private static void beforeTheHorizon() {
         OptimisticSim sim = new OptimisticSim();
         sim.inject(0, 10, 0);
         sim.inject(0, 20, 0);
-        sim.commit(15);
-        Expect.same("events(), horizon 15", sim.events(), 2);
-        sim.commit(200);
-        Expect.same("events(), horizon 200", sim.events(), 2);
-        sim.clear();
-        Expect.same("events() behind clear", sim.events(), 0);
+        for (int horizon : new int[] {9, 10, 15, 20, 21, 200}) {
+            sim.commit(horizon);
+            Expect.same("events(), horizon " + horizon, sim.events(), 2);
+        }
     }
 }
