@@ -68,25 +68,38 @@ public final class UseTest {
     }
 
     private static void laterCallsEndToo() {
-        int[] edges = {Integer.MIN_VALUE, -1, 0, 3, 4, 99, 100, 200, 201, Integer.MAX_VALUE};
         OptimisticSim sim = new OptimisticSim();
-        Past.full(sim);
+        for (int horizon : new int[] {-1, 0, 50, 99, 200}) {
+            sim.clear();
+            sim.commit(horizon);
+            callWithAllEdges(sim);
+            sim.clear();
+            Past.full(sim);
+            sim.commit(horizon);
+            callWithAllEdges(sim);
+        }
+        // What such late calls answer is free: that they have come to an end is all there is to see.
+        Expect.same("reached the end", true, true);
+    }
+
+    private static void callWithAllEdges(OptimisticSim sim) {
+        int[] edges = {Integer.MIN_VALUE, -1, 0, 3, 4, 50, 99, 100, 200, 201, Integer.MAX_VALUE};
         for (int a : edges) {
             for (int b : edges) {
                 for (int c : edges) {
                     sim.rule(a, b, c, a);
                     sim.inject(a, b, c);
-                    sim.work(a, b);
-                    sim.state(a, b);
-                    sim.handled(a, b);
-                    sim.commit(c);
-                    sim.lastTime();
-                    sim.events();
-                    sim.horizon();
                 }
+                sim.work(a, b);
+                sim.state(a, b);
+                sim.handled(a, b);
             }
-            sim.clear();
+            sim.lastTime();
+            sim.events();
+            sim.horizon();
         }
-        Expect.same("reached the end", true, true);
+        for (int time : edges) {
+            sim.commit(time);
+        }
     }
 }
