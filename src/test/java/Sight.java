@@ -1,7 +1,7 @@
 import java.util.function.Consumer;
 
 /**
- * All that calls can tell of an object with a given past. Each look is at a new
+ * Nearly all that calls can tell of an object with a given past (not every inject is tried). Each look is at a new
  * object, as one object is used for at most 512 calls: a past has at most 200.
  */
 final class Sight {
